@@ -45,6 +45,7 @@ public final class AloneTest {
         Checks.due("hour n", BAD, x.hour(0, 0, 0, 0, 0));
         Checks.due("hour n", BAD, x.hour(0, 0, 0, 25, 0));
         Checks.due("hour what", BAD, x.hour(0, 0, 0, 1, 2));
+        Checks.due("hour NULL", Checks.NULL, x.hour(0, 7, 0, 24, 1));
         Checks.due("hour NULL", Checks.NULL, x.hour(0, 0, 0, 24, 1));
         Checks.due("feeling runner", BAD, x.feeling(1, 20, 0));
         Checks.due("feeling pace", BAD, x.feeling(0, 9, 0));
@@ -66,6 +67,13 @@ public final class AloneTest {
         // like times: the least paces first
         bestRow(Checks.on(FLAT + FLAT + "runner 20 5 1;"), 0, 0, 545 + 571, 21, 22);
         bestRow(Checks.on(FLAT + FLAT + FLAT + "runner 20 1 1;"), 0, 0, 600 + 600 + 571, 20, 20, 21);
+        // a shorter course behind a longer one
+        PaceStore shorter = Checks.on(FLAT + FLAT + FLAT + "runner 20 9 3;");
+        Checks.due("three miles", 3, shorter.count(1));
+        Checks.due("their best", NONE, shorter.best(0, 0, 3));
+        Checks.read(shorter, FLAT + FLAT + "runner 20 9 3; rabbit 22 1 1;");
+        bestRow(shorter, 0, 0, 1090, 22, 22);
+        Checks.due("stays", 1090, shorter.stays(0, 0));
         // nothing above 40
         bestRow(Checks.on("mile -5 0 0;" + "runner 30 99 1;"), 0, 0, 300, 40);
         PaceStore x = Checks.on(STEEP + FLAT + "runner 10 9 1;");

@@ -68,6 +68,10 @@ public final class GamesTest {
         Checks.due("rests of one far better", 0, x.rests(2, 0, 0));
         Checks.due("rests of one far better", 15, x.rests(2, 0, 15));
         Checks.due("rests of one far better", 16, x.rests(0, 2, -1));
+        // shelter makes a chase of it: whichever plans they have, one would rather have another
+        PaceStore chase = Checks.on("mile -1 1 1;mile 1 1 0;mile 1 2 9;runner 25 3 2;runner 24 23 9;");
+        Checks.due("rests nowhere", 0, chase.rests(0, 1, -1));
+        Checks.due("rests nowhere", NONE, chase.rests(0, 1, 0));
         // one flat mile: plan 2 (23) is best for 9, spent out by 8: there 3 is best and loses
         x = Checks.on(FLAT + "runner 20 9 3; runner 20 8 3;");
         Checks.due("rests", 4, x.rests(0, 1, -1));
@@ -101,6 +105,8 @@ public final class GamesTest {
         Checks.due("line of 10", 11, x.line(0, 0, 5));
         Checks.sheet(x, 0, 601, 600);
         Checks.due("no pace", NONE, x.line(0, 0, 0));
+        Checks.sheet(x, 7, 600, 571);
+        Checks.due("the last sheet", 21, x.line(0, 7, 0));
         x = Checks.on("mile -5 0 0; runner 20 9 3;");
         Checks.sheet(x, 0, 1200);
         Checks.due("10 at least", 10, x.line(0, 0, 0));
@@ -129,6 +135,7 @@ public final class GamesTest {
         Checks.due("parts PLACE", Checks.PLACE, x.parts(0, 2, 0, 0));
         Checks.due("parts PLACE", Checks.PLACE, x.parts(0, -1, 0, 0));
         Checks.due("parts, an item of -1", BAD, x.parts(0, 0, 0, 0));
+        Checks.due("the last sheet", Checks.NULL, x.parts(7, 0, 0, 0));
         part(x, 0, 7, 1);
         part(x, 1, 5, 1);
         part(x, 2, 3, 1);

@@ -182,6 +182,13 @@ public final class RacesTest {
         Checks.due("place(2)", 3, x.place(2));
         Checks.due("place(3)", 0, x.place(3));
         x.set(0, 3, 25);
+        x.sheet(7, 0, 40);
+        for (int i = 36; i < 40; i++) {
+            x.set(7, i, i - 16);
+        }
+        Checks.due("the last items of the last sheet", 3, x.race(7, 36, 0));
+        Checks.due("beyond", Checks.PLACE, x.race(7, 37, 0));
+        Checks.due("of it", 23, x.ran(3, 0, 1));
         Checks.due("of like ones the least", 1, x.race(0, 0, 0));
         Checks.due("place(3)", 1, x.place(3));
     }
@@ -293,7 +300,16 @@ public final class RacesTest {
         Checks.due("a later race", 0, x.race(0, 1, 0));
         Checks.due("of it", 22, x.ran(0, 1, 1));
         Checks.due("restore(1) again", 1, x.restore(1));
-        Checks.due("of the one kept", 21, x.ran(0, 1, 1));
+        // he wants 21: it needs 24, then 21 with nothing left; spent out he goes by 17, then by 20
+        ranRow(x, 0, 0, 705, 21, 0, 0, 1, 705);
+        ranRow(x, 0, 1, 600, 21, 0, 0, 1, 1305);
+        Checks.due("its kind", 4, x.kind(0, 1));
+        Checks.due("an easy race", 1, Checks.read(x, "mile 0 0 0; runner 30 99 9;"));
+        Checks.due("of one mile", 0, x.race(0, 0, 0));
+        Checks.due("its kind", 1, x.kind(0, 0));
+        Checks.due("restore(1) again", 1, x.restore(1));
+        Checks.due("the kind kept", 4, x.kind(0, 0));
+        ranRow(x, 0, 0, 705, 21, 0, 0, 1, 705);
         Checks.due("restore(0)", 1, x.restore(0));
         Checks.due("no race then", STATE, x.ran(0, 1, 1));
         Checks.due("no race then", 0, x.count(6));

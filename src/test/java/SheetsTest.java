@@ -90,7 +90,11 @@ public final class SheetsTest {
         x.sheet(1, 1, 5);
         x.sheet(2, 2, 3);
         Checks.due("copy(-1..)", BAD, x.copy(-1, 0, 0, 0, 0));
+        Checks.due("copy(8..)", BAD, x.copy(8, 0, 0, 0, 0));
         Checks.due("copy(..8..)", BAD, x.copy(0, 0, 8, 0, 0));
+        Checks.due("copy(..-1..)", BAD, x.copy(0, 0, -1, 0, 0));
+        Checks.due("copy of the last ones", NULL, x.copy(0, 0, 7, 0, 0));
+        Checks.due("copy of the last ones", NULL, x.copy(7, 0, 0, 0, 0));
         Checks.due("NULL ahead of STORE, PLACE", NULL, x.copy(1, -1, 3, 0, 9));
         Checks.due("NULL of a", NULL, x.copy(3, 0, 0, 0, 0));
         Checks.due("STORE ahead of PLACE", STORE, x.copy(0, 99, 1, 0, 1));
@@ -129,6 +133,7 @@ public final class SheetsTest {
         Checks.due("drop(-1)", BAD, x.drop(-1));
         Checks.due("drop(8)", BAD, x.drop(8));
         Checks.due("drop(0)", NULL, x.drop(0));
+        Checks.due("drop(7)", NULL, x.drop(7));
         Checks.sheet(x, 0, 1, 2, 3);
         Checks.due("drop(0)", 3, x.drop(0));
         Checks.due("gone", 0, x.count(0));

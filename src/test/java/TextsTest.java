@@ -61,6 +61,9 @@ public final class TextsTest {
         fault(MILE + RUNNER + "5", 25, 1);
         fault("miles 0 0 0;", 0, 1);
         fault("mil 0 0 0;", 0, 1);
+        fault("file 0 0 0;", 0, 1);
+        fault("milez 0 0 0;", 0, 1);
+        fault("milea 0 0 0;", 0, 1);
         fault("Mile 0 0 0;", 0, 1);
         fault("mile 0 0;", 8, 1);
         fault("mile 0 0 0 0;", 11, 1);

@@ -962,6 +962,8 @@ public final class PaceStore {
             int then = left + changeBy(need, line, fill);
             isHard = need > line;
             isSpentOut = then < 0;
+            // one who is spent out falls back out of the shelter that he wanted
+            isSheltered = isSheltered && !isSpentOut;
             left = Math.max(0, Math.min(store, then));
             seconds = secondsBy(isSpentOut ? course.easyPace(mile, line) : pace);
             time += seconds;

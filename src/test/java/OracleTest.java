@@ -20,7 +20,7 @@ public final class OracleTest {
     private int[] warmer = new int[12];
 
     private static int sheltered;
-    private static int shelteredAndOut;
+    private static int outOfShelter;
     private static int spentOut;
     private static int noBest;
     private static int restsMany;
@@ -124,10 +124,11 @@ public final class OracleTest {
             int took = seconds(then == null ? easy(mile, runner[0]) : wants[i]);
             lefts[i] = then == null ? 0 : then;
             times[i] += took;
-            told[i] = new int[] {took, wants[i], lefts[i], isSheltered ? 1 : 0, then == null ? 1 : 0, times[i], need > runner[0] ? 1 : 0};
+            int goesSheltered = then != null && isSheltered ? 1 : 0;
+            told[i] = new int[] {took, wants[i], lefts[i], goesSheltered, then == null ? 1 : 0, times[i], need > runner[0] ? 1 : 0};
             sheltered += told[i][3];
             spentOut += told[i][4];
-            shelteredAndOut += told[i][3] * told[i][4];
+            outOfShelter += then == null && isSheltered ? 1 : 0;
         }
         return told;
     }
@@ -485,7 +486,7 @@ public final class OracleTest {
         }
         met("shelter", sheltered);
         met("spent out ones", spentOut);
-        met("sheltered ones spent out", shelteredAndOut);
+        met("ones spent out who would be sheltered", outOfShelter);
         met("no best", noBest);
         met("games that rest at some", restsMany);
         for (int kind = 1; kind <= 5; kind++) {

@@ -144,14 +144,21 @@ public final class RacesTest {
         Checks.due("its place", 2, x.place(1));
     }
 
-    /** Sheltered by the rule, though spent out: what he was is told, what he goes is not sheltered. */
+    /** Sheltered by the rule, and spent out all the same: he goes it, and is told, not sheltered. */
     private static void shelteredAndSpentOut() {
         PaceStore x = Checks.on("mile 0 0 0; mile 0 0 0; mile 5 0 8; runner 30 99 1;"
                 + "runner 24 20 1; when mile below 1 push 1; when mile below 2 ease 2; when mile above 1 push 1;");
         Checks.sheet(x, 0, 24, 24);
         x.race(0, 0, 0);
-        ranRow(x, 1, 2, 800, 24, 0, 1, 1, 1801);
+        ranRow(x, 1, 2, 800, 24, 0, 0, 1, 1801);
         Checks.due("DEAD", 4, x.kind(1, 2));
+        // a hard mile by which he is not spent out stays a sheltered one
+        x = Checks.on("mile 0 0 0; mile 0 0 0; mile 2 0 8; runner 30 99 1;"
+                + "runner 24 20 1; when mile below 1 push 1; when mile below 2 ease 2; when mile above 1 push 1;");
+        Checks.sheet(x, 0, 24, 24);
+        x.race(0, 0, 0);
+        ranRow(x, 1, 2, 500, 24, 16, 1, 0, 1501);
+        Checks.due("SURGED", 5, x.kind(1, 2));
     }
 
     private static void slips() {

@@ -17,6 +17,22 @@ final class Checks {
         }
     }
 
+    /** Of two long texts only the first line that differs is told. */
+    static void same(String what, String want, String got) {
+        if (got.equals(want)) {
+            return;
+        }
+        String[] wanted = want.split("\n");
+        String[] seen = got.split("\n");
+        int at = 0;
+        while (at < wanted.length && at < seen.length && wanted[at].equals(seen[at])) {
+            at++;
+        }
+        String dueThere = at < wanted.length ? wanted[at] : "its end";
+        String seenThere = at < seen.length ? seen[at] : "its end";
+        due(what + ": in place of '" + dueThere + "' there is '" + seenThere + "': lines that differ", 0, 1);
+    }
+
     static void end() {
         if (wrong != 0) {
             System.out.println(wrong + " answers are not as due");

@@ -440,7 +440,7 @@ public final class RefusalsTest {
             Checks.due("fault()", 1, x.fault());
             Checks.due("the tape", 0, x.count(5));
             Checks.due("status()", States.STATUS, x.status());
-            Checks.same("what a fault of " + state + " leaves", States.seenBesideTape(state.make()), States.seenBesideTape(x));
+            Checks.same("what a fault of " + state + " leaves", States.seen(state.make(), false), States.seen(x, false));
         }
         PaceStore x = States.FULL_TAPE.make();
         Checks.due("course() of 600 bytes", -1000111, x.course());

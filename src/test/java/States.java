@@ -131,12 +131,8 @@ enum States {
         Checks.same("what " + name + " of " + this + " leaves", seen(unasked, true), seen(x, true));
     }
 
-    /** All but the tape and fault(): for what course() leaves that finds a fault. */
-    static String seenBesideTape(PaceStore x) {
-        return seen(x, false);
-    }
-
-    private static String seen(PaceStore x, boolean isTapeSeen) {
+    /** Destroys what it looks at. */
+    static String seen(PaceStore x, boolean isTapeSeen) {
         Look look = new Look();
         seeCourse(x, look);
         seeAlone(x, look);

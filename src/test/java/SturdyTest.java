@@ -8,10 +8,10 @@ public final class SturdyTest {
     private static final int[] EDGES = {Integer.MIN_VALUE, -1000000, -2, -1, 41, 600, 999999, 1000000, Integer.MAX_VALUE};
     private static final String[] TEXTS = {
         "mile 0 0 0; runner 20 9 1;",
-        "mile 5 9 9; mile -5 0 3; mile 0 2 8; runner 12 40 3; when store below 9 ease 2; when behind above 3 push 1;"
+        "mile 5 9 9; mile -5 0 3; runner 12 40 3; when store below 9 ease 2; when behind above 3 push 1;"
             + "runner 13 30 2; runner 12 99 9; runner 14 1 1; rabbit 12 2 5; rabbit 13 12 0;",
-        "mile 0 0 8;mile 0 0 8;mile 0 0 8;mile 0 0 8;mile 0 0 8;mile 0 0 8;mile 0 0 8;mile 0 0 8;mile 0 0 8;mile 0 0 8;"
-            + "mile 0 0 8;mile 0 0 8;runner 30 99 9;runner 29 99 9;rabbit 30 12 1;rabbit 31 6 2;rabbit 32 3 3;rabbit 33 1 4;rabbit 40 9 99;",
+        "mile 0 0 8;mile 0 0 8;mile 0 0 8;mile 0 0 8;"
+            + "runner 30 99 9;runner 29 99 9;rabbit 30 12 1;rabbit 31 6 2;rabbit 32 3 3;rabbit 33 1 4;rabbit 40 9 99;",
         "mile 0 0 0; runner 20 9", "mile 0 0 0; runner 31 9 1;", "when", ";", "",
     };
 
@@ -71,59 +71,53 @@ public final class SturdyTest {
         }
     }
 
-    private static boolean isRefused(int answer) {
-        return answer <= PaceStore.BAD && answer >= PaceStore.FULL || answer <= -1000011 && answer >= -1000015;
-    }
-
-    /** All that can be seen without a change, but status(). */
-    private long seen() {
-        long sum = x.fault();
-        for (int what = 0; what < 7; what++) {
-            sum = sum * 31 + x.count(what);
-        }
-        for (int r = 0; r < 4; r++) {
-            sum = sum * 31 + x.place(r);
-            for (int m = 0; m < 12; m++) {
-                sum = sum * 31 + x.need(m, 20, r % 2);
-                for (int what = 0; what < 6; what++) {
-                    sum = sum * 31 + x.ran(r, m, what);
-                }
-                sum = sum * 31 + x.kind(r, m);
-            }
-            sum = sum * 31 + x.best(r, 0, -1);
-            sum = sum * 31 + x.best(r, 1, 0);
-        }
-        for (int i = 0; i < 16; i++) {
-            sum = sum * 31 + x.trace(i);
-        }
-        return sum;
-    }
-
-    private long run() {
+    /** So many calls on a new object; the answers, as one number. */
+    private long run(int calls) {
         long answers = 0;
-        for (int n = 0; n < 512; n++) {
-            int which = draw.nextInt(32);
-            boolean looks = n % 4 == 0;
-            long before = looks ? seen() : 0;
+        for (int n = 0; n < calls; n++) {
             int status = x.status();
+            int which = draw.nextInt(32);
             int answer = call(which);
             answers = answers * 31 + answer;
-            if (looks && isRefused(answer)) {
-                Checks.due("what is refused by call " + which + " changes nothing", before, seen());
-            }
             if (answer <= PaceStore.BAD && answer >= PaceStore.FULL) {
                 Checks.due("what call " + which + " refuses leaves status()", status, x.status());
             }
-            if (answer <= -1000011 && answer >= -1000015 && which < 30) {
+            if (isFinding(answer) && which < 30) {
                 Checks.due("status() of call " + which, -1000010 - answer, x.status());
             }
         }
         return answers;
     }
 
+    private static boolean isFinding(int answer) {
+        return answer <= -1000011 && answer >= -1000015;
+    }
+
+    private static boolean isRefused(int answer) {
+        return answer <= PaceStore.BAD && answer >= PaceStore.FULL || isFinding(answer);
+    }
+
+    /** Of one that went so many calls and one that went one more, which was refused: all that can be seen. */
+    private static void leavesAll(int seed, int calls) {
+        SturdyTest asked = new SturdyTest(seed);
+        asked.run(calls);
+        int which = asked.draw.nextInt(32);
+        if (!isRefused(asked.call(which))) {
+            return;
+        }
+        SturdyTest unasked = new SturdyTest(seed);
+        unasked.run(calls);
+        Checks.same("what call " + which + " leaves", States.seen(unasked.x, true), States.seen(asked.x, true));
+    }
+
     public static void main(String[] args) {
-        for (int seed = 0; seed < 150; seed++) {
-            Checks.due("the same calls, the same answers", new SturdyTest(seed).run(), new SturdyTest(seed).run());
+        for (int seed = 0; seed < 1500; seed++) {
+            Checks.due("the same calls, the same answers", new SturdyTest(seed).run(90), new SturdyTest(seed).run(90));
+        }
+        for (int seed = 0; seed < 200; seed++) {
+            for (int calls = 0; calls < 24; calls++) {
+                leavesAll(seed, calls);
+            }
         }
         Checks.end();
     }

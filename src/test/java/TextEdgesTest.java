@@ -433,6 +433,7 @@ public final class TextEdgesTest {
             Checks.read(x, MILE.repeat(n) + RUNNER);
             Checks.due("miles", n, x.count(1));
         }
+        x = new PaceStore();
         for (int n = 1; n <= 4; n++) {
             Checks.read(x, MILE + RUNNER.repeat(n));
             Checks.due("runners", n, x.count(2));
@@ -441,6 +442,7 @@ public final class TextEdgesTest {
             Checks.read(x, MILE + RUNNER + RABBIT.repeat(n));
             Checks.due("rabbits", n, x.count(3));
         }
+        x = new PaceStore();
         for (int n = 0; n <= 6; n++) {
             Checks.read(x, MILE + RUNNER + RULE.repeat(n) + RUNNER + RULE.repeat(6 - n) + RUNNER);
             Checks.due("rules of all", 6, x.count(4));

@@ -19,6 +19,7 @@ public final class AloneEdgesTest {
         coinJustEnough();
         ofSeveralWhatCostsLeast();
         hiredOfAllSets();
+        allAreHired();
         noneHired();
         staysUpToTill();
         staysBeyondTheEnd();
@@ -32,6 +33,7 @@ public final class AloneEdgesTest {
         feelsUpToNinety();
         feelsFromTheEnds();
         feelsTheLeast();
+        feelsNoShelterOfARace();
         Checks.end();
     }
 
@@ -273,6 +275,16 @@ public final class AloneEdgesTest {
         Checks.due("a set of several is the best", 1, Integer.bitCount(most) > 2 ? 1 : 0);
     }
 
+    /** Each of five hills has a rabbit of its own: the last of the sets is the best. */
+    private static void allAreHired() {
+        PaceStore x = Checks.on("mile -4 0 8;mile -2 0 8;mile 0 0 8;mile 2 0 8;mile 4 0 8;runner 20 1 1;"
+                + "rabbit 24 5 99;rabbit 22 5 99;rabbit 20 5 99;rabbit 18 5 99;rabbit 16 5 99;");
+        hiredRow("one coin too few for all", x, 494, 30, x.best(0, 30, -1), 396);
+        hiredRow("just enough for all", x, 495, 31, x.best(0, 31, -1), 495);
+        hiredRow("more than for all", x, 999, 31, x.best(0, 31, -1), 495);
+        Checks.due("all take less than four", 1, x.best(0, 31, -1) < x.best(0, 30, -1) ? 1 : 0);
+    }
+
     /** "NONE: no BEST by any." */
     private static void noneHired() {
         // by 10 the mile needs 23, sheltered 19: 81 of the store
@@ -445,6 +457,10 @@ public final class AloneEdgesTest {
         feels("90 is not below 90, and there is no 100", "runner 20 90 1;", 30, 0, 600);
         feels("90 is not above 90", "runner 20 90 1;", 29, 9, 413);
         feels("91 is above 90, and there is no 100", "runner 20 91 1;", 29, 0, 600);
+        // mile 0 by 23 just so, with all of 90; mile 1 by one less, with 81: the last rules of all
+        PaceStore x = Checks.on(FLAT + "mile 5 4 0;runner 20 90 1;");
+        Checks.due("90 below, 90 above: the rules", 99, x.feeling(0, 23, 0));
+        Checks.due("90 below, 90 above: his time", 521 + 545, x.feeling(0, 23, 1));
     }
 
     /** From 10 and from 40, beyond which no rule goes. */
@@ -472,5 +488,17 @@ public final class AloneEdgesTest {
         Checks.due("him alone, without rabbits", 631, x.feeling(1, 18, 1));
         Checks.due("what 2", BAD, x.feeling(0, 20, 2));
         Checks.due("what -1", BAD, x.feeling(0, 20, -1));
+    }
+
+    /** "in a RACE of him alone": the shelter in which he ended the latest RACE is not his. */
+    private static void feelsNoShelterOfARace() {
+        PaceStore x = Checks.on(DOWN + DOWN + "mile -5 0 8;runner 30 99 1;when mile above 0 ease 2;runner 30 99 1;");
+        int rules = x.feeling(0, 40, 0);
+        int time = x.feeling(0, 40, 1);
+        Checks.sheet(x, 0, 40, 39);
+        Checks.due("who comes first", 1, x.race(0, 0, 0));
+        Checks.due("he ends it sheltered", 1, x.ran(0, 2, 3));
+        Checks.due("the rules", rules, x.feeling(0, 40, 0));
+        Checks.due("his time", time, x.feeling(0, 40, 1));
     }
 }

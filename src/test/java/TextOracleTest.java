@@ -145,15 +145,24 @@ public final class TextOracleTest {
         return s.toString();
     }
 
-    /** A statement as told; once in a while a number is beyond its edge. */
+    /** As told, often at an edge, and once in a while the first one beyond it. */
+    private static int number(String[] edges) {
+        int low = Integer.parseInt(edges[0]);
+        int high = Integer.parseInt(edges[1]);
+        int beyond = DRAW.nextInt(25) == 0 ? 1 : 0;
+        switch (DRAW.nextInt(8)) {
+            case 0: return low - beyond;
+            case 1: return high + beyond;
+            default: return between(low, high);
+        }
+    }
+
     private static String statement(int which) {
         StringBuilder s = new StringBuilder(someBlanks(0)).append(WORDS[which]);
         for (String wanted : WANTED[which]) {
             s.append(someBlanks(wanted.equals(";") ? 0 : 1));
             if (wanted.contains(" ")) {
-                String[] edges = wanted.split(" ");
-                int beyond = DRAW.nextInt(300) == 0 ? 2 : 0;
-                s.append(between(Integer.parseInt(edges[0]) - beyond, Integer.parseInt(edges[1]) + beyond));
+                s.append(number(wanted.split(" ")));
             } else {
                 String[] words = wanted.split("\\|");
                 s.append(words[DRAW.nextInt(words.length)]);
